@@ -70,7 +70,11 @@ public final class ChainWalks {
   }
 
   public int classOf(int i) {
-    return isState(i) ? classWith(i) : NO_STATE;
+    if (!isState(i)) {
+      return NO_STATE;
+    }
+    int self = 1 << i;
+    return reachedFrom(i) & (leadingTo(self, 0) | self);
   }
 
   public int closed(int i) {
@@ -265,7 +269,7 @@ public final class ChainWalks {
     return found;
   }
 
-  /** The states outside both sets from which one can go to the goal past no barred state. */
+  /** The states outside both sets from which one can go to the goal through no barred state. */
   private int leadingTo(int goal, int barred) {
     int found = goal;
     for (int step = 1; step < n; step++) {
@@ -279,13 +283,10 @@ public final class ChainWalks {
     return found & ~goal;
   }
 
-  private int classWith(int i) {
-    int self = 1 << i;
-    return reachedFrom(i) & (leadingTo(self, 0) | self);
-  }
-
   private boolean isInClosedClass(int i) {
-    return reachedFrom(i) == classWith(i);
+    int self = 1 << i;
+    int others = reachedFrom(i) & ~self;
+    return (others & ~leadingTo(self, 0)) == 0;
   }
 
   private long afterOne(int i, int j, int part) {
@@ -332,7 +333,8 @@ public final class ChainWalks {
 
   /** Solves for the expected visits to a state whose class isn't closed. */
   private void solveVisits(int j) {
-    int unknown = leadingTo(1 << j, 0) | 1 << j;
+    int self = 1 << j;
+    int unknown = leadingTo(self, 0) | self;
     layOut(unknown);
     system[j * ROW + RIGHT] = stepTotal(j);
     eliminate();
@@ -372,12 +374,12 @@ public final class ChainWalks {
 
   private void clearFactor(int i, int k, long divisor) {
     if (divisor == 0) {
-      return;
+      return;  // Never so; the rule is to look at a divisor before it divides.
     }
     long pivot = system[k * ROW + k];
     long factor = system[i * ROW + k];
+    // The columns of states that are not there hold zeros and stay so.
     for (int j = 0; j < ROW; j++) {
-      // Columns past the last state hold only zeros, up to the right side.
       long cross = pivot * system[i * ROW + j] - factor * system[k * ROW + j];
       system[i * ROW + j] = cross / divisor;
     }

@@ -112,6 +112,17 @@ public final class PromisesTest {
       due("set weight " + w, x.set(2, 1, w), -4);
     }
     dueWeights("set", x, 0, 0, 0, 0, 0, 0, 0, 3, 1);
+
+    // A weight set anew leaves no trace of the old one in the chances.
+    ChainWalks anew = walk(0, 5, 0, 0);
+    anew.set(0, 0, 7);
+    anew.set(0, 0, 1);
+    anew.set(0, 1, 2);
+    after(anew, 0, 0, 1, 1, 3);
+    after(anew, 0, 1, 1, 2, 3);
+    anew.set(0, 0, 0);
+    anew.set(0, 1, 0);
+    after(anew, 0, 0, 1, 1, 1);
   }
 
   private static void promise3() {
