@@ -7,7 +7,9 @@ import java.nio.file.Files;
 import java.nio.file.Path;
 import java.util.ArrayDeque;
 import java.util.Deque;
+import java.util.Map;
 import java.util.Set;
+import java.util.TreeMap;
 import java.util.TreeSet;
 import java.util.regex.Matcher;
 import java.util.regex.Pattern;
@@ -81,6 +83,7 @@ public final class FaceTest {
           "arrays are made in a field's initialiser: " + line.trim());
     }
     checkCalls(code);
+    checkDepth(code);
   }
 
   /** No call stands inside the arguments of another call. */
@@ -96,6 +99,32 @@ public final class FaceTest {
         open.push(call);
       }
     }
+  }
+
+  /** Methods are short, none calls itself even by way of others, and calls go at most six deep. */
+  private static void checkDepth(String code) {
+    Map<String, String> bodies = new TreeMap<>();
+    Matcher method = Pattern.compile("(?ms)^  (?:public|private) [\\w ]*?(\\w+)\\([^)]*\\) \\{\n(.*?)^  \\}$").matcher(code);
+    while (method.find()) {
+      bodies.put(method.group(1), method.group(2));
+      must(method.group(2).lines().count() <= 60, method.group(1) + " is short");
+    }
+    must(bodies.size() == ChainWalks.class.getDeclaredMethods().length + 1, "all methods are seen");
+    Set<String> last = new TreeSet<>(bodies.keySet());
+    for (int depth = 1; depth < 6; depth++) {
+      Set<String> next = new TreeSet<>();
+      for (String name : bodies.keySet()) {
+        if (last.stream().anyMatch(called -> calls(bodies.get(name), called))) {
+          next.add(name);
+        }
+      }
+      last = next;
+    }
+    must(last.isEmpty(), "calls go at most six deep: " + last);
+  }
+
+  private static boolean calls(String body, String name) {
+    return Pattern.compile("\\b" + name + "\\(").matcher(body).find();
   }
 
   public static void main(String[] args) throws IOException {
