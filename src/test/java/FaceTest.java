@@ -110,6 +110,8 @@ public final class FaceTest {
       must(method.group(2).lines().count() <= 60, method.group(1) + " is short");
     }
     must(bodies.size() == ChainWalks.class.getDeclaredMethods().length + 1, "all methods are seen");
+    bodies.forEach(FaceTest::checkLoops);
+    bodies.forEach(FaceTest::checkDivisors);
     Set<String> last = new TreeSet<>(bodies.keySet());
     for (int depth = 1; depth < 6; depth++) {
       Set<String> next = new TreeSet<>();
@@ -121,6 +123,30 @@ public final class FaceTest {
       last = next;
     }
     must(last.isEmpty(), "calls go at most six deep: " + last);
+  }
+
+  /** Every loop counts up to a bound that does not change, and nothing else changes its counter. */
+  private static void checkLoops(String name, String body) {
+    must(!Pattern.compile("\\b(while|do)\\b").matcher(body).find(), name + " has counted loops alone");
+    Pattern counted = Pattern.compile("for \\(int (\\w+) = \\w+; \\1 <=? (n|i|[A-Z_]+)( && [^;]+)?; \\1\\+\\+\\)");
+    String rest = counted.matcher(body).replaceAll("");
+    must(!Pattern.compile("\\bfor\\b").matcher(rest).find(), name + " shows the end of each loop");
+    Matcher loop = counted.matcher(body);
+    while (loop.find()) {
+      Pattern change = Pattern.compile("\\b(" + loop.group(1) + "|" + loop.group(2) + ")( [-+*/%&|^<>]*= |\\+\\+|--)");
+      Matcher changed = change.matcher(rest.replaceAll(" (<=|>=|==|!=) ", " ? "));
+      must(!changed.find(), name + " leaves the counter " + loop.group(1) + " and its bound alone");
+    }
+  }
+
+  /** A divisor has a name and is compared with 0 in the same method. */
+  private static void checkDivisors(String name, String body) {
+    Matcher division = Pattern.compile("[/%]=?\\s*([^\\s;,)]*)").matcher(body);
+    while (division.find()) {
+      String divisor = division.group(1);
+      must(divisor.matches("[a-z]\\w*") && Pattern.compile("\\b" + divisor + " [!=]= 0").matcher(body).find(),
+          name + " looks at the divisor " + divisor);
+    }
   }
 
   private static boolean calls(String body, String name) {
